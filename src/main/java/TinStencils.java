@@ -37,8 +37,8 @@ public final class TinStencils {
     private int tapeLength = 0;
     private int faultPlace = NONE;
     private final int[] refused = new int[3];
-    private final Stack now = new Stack();
-    private final Stack[] images = new Stack[IMAGES];
+    private final Pile now = new Pile();
+    private final Pile[] images = new Pile[IMAGES];
     private int imageCount = 0;
     private Sheet draft = new Sheet();
     private final Teller teller = new Teller();
@@ -49,10 +49,11 @@ public final class TinStencils {
     private final Reading reading = new Reading();
     private final Cutting cutting = new Cutting();
     private final int[] anchors = new int[EDGE];
+    private final int[] open = new int[EDGE];
 
     public TinStencils() {
         for (int k = 0; k < IMAGES; k++) {
-            images[k] = new Stack();
+            images[k] = new Pile();
         }
     }
 
@@ -130,7 +131,7 @@ public final class TinStencils {
             case 2: return s.worth[square];
             case 3:
                 hanging.spread(s, s.bridges.in);
-                return (hanging.hanging[y] >> x) & 1;
+                return (hanging.hung[y] >> x) & 1;
             case 4:
                 findPieces(s, s.bridges.in);
                 return parts.partOf[square];
@@ -427,9 +428,9 @@ public final class TinStencils {
 
     private void findHoles(Sheet s) {
         for (int y = 0; y < EDGE; y++) {
-            anchors[y] = s.openRow(y);
+            open[y] = s.openRow(y);
         }
-        parts.split(anchors);
+        parts.split(open);
     }
 
     /** What may be joined is judged without any bridges, whichever are in. */
@@ -509,20 +510,20 @@ public final class TinStencils {
     }
 
     /** The sheets over one another in their order: all that an image keeps. */
-    private static final class Stack {
+    private static final class Pile {
         final Sheet[] sheets = new Sheet[SHEETS];
         final int[] places = new int[SHEETS];
         /** For each set of told sheets, the least that is left of them when they are the latest. */
         private final int[] least = new int[1 << SHEETS];
 
-        Stack() {
+        Pile() {
             for (int k = 0; k < SHEETS; k++) {
                 sheets[k] = new Sheet();
                 places[k] = k;
             }
         }
 
-        void copyFrom(Stack other) {
+        void copyFrom(Pile other) {
             for (int k = 0; k < SHEETS; k++) {
                 sheets[k].copyFrom(other.sheets[k]);
                 places[k] = other.places[k];
@@ -1421,7 +1422,7 @@ public final class TinStencils {
         static final int STEPS = SQUARES * (SIDES + 1);
 
         final int[] tin = new int[EDGE];
-        final int[] hanging = new int[EDGE];
+        final int[] hung = new int[EDGE];
         final int[] fallen = new int[EDGE];
         final int[] tongue = new int[SQUARES];
         int reached = 0;
@@ -1434,29 +1435,33 @@ public final class TinStencils {
         void spread(Sheet s, int set) {
             for (int y = 0; y < EDGE; y++) {
                 tin[y] = s.tinRow(y, set);
-                hanging[y] = alongRow(tin[y] & s.rimRow(y), tin[y]);
+                hung[y] = alongRow(tin[y] & s.rimRow(y), tin[y]);
             }
             boolean more = true;
             for (int sweep = 0; sweep < SQUARES && more; sweep++) {
                 more = false;
                 for (int y = 1; y < EDGE; y++) {
-                    more |= pull(y, y - 1);
+                    if (pull(y, y - 1)) {
+                        more = true;
+                    }
                 }
                 for (int y = EDGE - 2; y >= 0; y--) {
-                    more |= pull(y, y + 1);
+                    if (pull(y, y + 1)) {
+                        more = true;
+                    }
                 }
             }
             for (int y = 0; y < EDGE; y++) {
-                fallen[y] = tin[y] & ~hanging[y];
+                fallen[y] = tin[y] & ~hung[y];
             }
         }
 
         private boolean pull(int y, int from) {
-            int fresh = hanging[from] & tin[y] & ~hanging[y];
+            int fresh = hung[from] & tin[y] & ~hung[y];
             if (fresh == 0) {
                 return false;
             }
-            hanging[y] |= alongRow(fresh, tin[y]);
+            hung[y] |= alongRow(fresh, tin[y]);
             return true;
         }
 
@@ -1587,7 +1592,7 @@ public final class TinStencils {
             partOf[from] = number;
             queue[0] = from;
             int tail = 1;
-            for (int head = 0; head < tail; head++) {
+            for (int head = 0; head < tail && head < SQUARES; head++) {
                 for (int side = 0; side < SIDES; side++) {
                     int to = beside(queue[head], side);
                     if (to != NONE && partOf[to] == NONE && isSet(rows, to)) {
@@ -1706,13 +1711,11 @@ public final class TinStencils {
 
         private void begin(int set, Parts pieces) {
             int base = set * NODES;
-            Arrays.fill(cost, base, base + NODES, FAR);
             for (int square = 0; square < SQUARES; square++) {
                 int piece = pieces.partOf[square];
-                if (piece != NONE && set == 1 << piece) {
-                    cost[base + square] = 0;
-                }
+                cost[base + square] = piece != NONE && set == 1 << piece ? 0 : FAR;
             }
+            cost[base + FRAME] = FAR;
         }
 
         private void merge(int set, int part) {
@@ -1733,10 +1736,14 @@ public final class TinStencils {
             for (int sweep = 0; sweep <= NODES && more; sweep++) {
                 more = false;
                 for (int square = 0; square < SQUARES; square++) {
-                    more |= price[square] != NONE && relaxSquare(base, square);
+                    if (price[square] != NONE && relaxSquare(base, square)) {
+                        more = true;
+                    }
                 }
                 for (int square = SQUARES - 1; square >= 0; square--) {
-                    more |= price[square] != NONE && relaxSquare(base, square);
+                    if (price[square] != NONE && relaxSquare(base, square)) {
+                        more = true;
+                    }
                 }
             }
         }
@@ -1964,6 +1971,9 @@ public final class TinStencils {
 
     /** Plans the cutting of holes, judging every set of them that may be cut. */
     private static final class Cutting {
+        /** Above what any LOOSE can be. */
+        static final int FAR = 2 * SQUARES;
+
         final int[] places = new int[MOST_HOLES];
         private final int[] holes = new int[MOST_HOLES * EDGE];
         private final int[] loose = new int[1 << MOST_HOLES];
@@ -1980,7 +1990,7 @@ public final class TinStencils {
             loose[all] = looseBehind(s, all, number, hanging);
             for (int set = all - 1; set >= 0; set--) {
                 loose[set] = looseBehind(s, set, number, hanging);
-                ahead[set] = Integer.MAX_VALUE;
+                ahead[set] = FAR;
                 for (int k = 0; k < number; k++) {
                     if (((set >> k) & 1) == 0) {
                         ahead[set] = Math.min(ahead[set], worstFrom(set | (1 << k)));
