@@ -312,8 +312,9 @@ public final class TinStencils {
         if (what == 0) {
             return now.leftOfOrder();
         }
+        int least = now.leastLeft();
         if (what == 1) {
-            return now.leastLeft();
+            return least;
         }
         return what >= 10 ? now.leastOrder(what - 10) : NONE;
     }
@@ -617,42 +618,40 @@ public final class TinStencils {
             least[0] = 0;
             for (int set = 1; set <= told; set++) {
                 if ((set & ~told) == 0) {
-                    least[set] = leftAhead(set, bestAhead(set));
+                    weighAhead(set);
                 }
             }
             return least[told];
         }
 
-        /** Of a set of the latest sheets the one that comes ahead of the others, of several the least. */
-        private int bestAhead(int set) {
+        /**
+         * Of a set of the latest sheets the one that comes best ahead of the others, of several the least;
+         * what is left so is kept for the greater sets.
+         */
+        private int weighAhead(int set) {
             int best = NONE;
-            int fewest = 0;
             for (int k = 0; k < SHEETS; k++) {
                 if (((set >> k) & 1) != 0) {
-                    int sum = leftAhead(set, k);
-                    if (best == NONE || sum < fewest) {
+                    int later = set & ~(1 << k);
+                    int sum = leftOf(k, later) + least[later];
+                    if (best == NONE || sum < least[set]) {
                         best = k;
-                        fewest = sum;
+                        least[set] = sum;
                     }
                 }
             }
             return best;
         }
 
-        private int leftAhead(int set, int ahead) {
-            int later = set & ~(1 << ahead);
-            return leftOf(ahead, later) + least[later];
-        }
-
+        /** Asked behind leastLeft(). */
         int leastOrder(int place) {
-            leastLeft();
             int set = toldSet();
             int number = NONE;
             for (int k = 0; k <= place && k <= SHEETS; k++) {
                 if (set == 0) {
                     return NONE;
                 }
-                number = bestAhead(set);
+                number = weighAhead(set);
                 set &= ~(1 << number);
             }
             return number;

@@ -11,6 +11,8 @@ public final class HangTest {
         changes();
         sagging();
         corners();
+        spirals();
+        farGap();
         DUE.end();
     }
 
@@ -146,5 +148,85 @@ public final class HangTest {
         DUE.is("upper right is less", Due.with(Due.drawn("###.#", ".....")).corner(0), 1);
         DUE.is("none told", new TinStencils().corner(0), -1);
         DUE.is("no such", new TinStencils().corner(-1), -1);
+    }
+
+    /** The longest way that tin can hang by: a strip of one square that winds inwards, from each corner. */
+    private static void spirals() {
+        for (int turns = 0; turns < 4; turns++) {
+            for (int mirrored = 0; mirrored < 2; mirrored++) {
+                boolean[][] tin = spiral();
+                for (int k = 0; k < turns; k++) {
+                    tin = Slow.turnOnce(tin);
+                }
+                String[] sides = {"north", "east", "south", "west"};
+                String[] rows = new String[20];
+                for (int y = 0; y < 20; y++) {
+                    StringBuilder row = new StringBuilder();
+                    for (int a = 0; a < 20; a++) {
+                        row.append(tin[y][mirrored == 1 ? 19 - a : a] ? '#' : '.');
+                    }
+                    rows[y] = row.toString();
+                }
+                for (String side : sides) {
+                    checkSpiral(Due.with(Due.drawn(rows) + "hold " + side + ";"), rows, side);
+                }
+            }
+        }
+    }
+
+    private static void checkSpiral(TinStencils x, String[] rows, String side) {
+        Slow slow = new Slow(20, 20);
+        for (int k = 0; k < 4; k++) {
+            slow.held[k] = new String[] {"north", "east", "south", "west"}[k].equals(side);
+        }
+        for (int y = 0; y < 20; y++) {
+            for (int a = 0; a < 20; a++) {
+                slow.through[y][a] = rows[y].charAt(a) == '.';
+            }
+        }
+        int[][] tongues = slow.tongues(slow.tin(0), slow.rims());
+        DUE.is("all hangs", x.judge(0, 0), slow.loose(slow.tin(0)) == 0 ? 1 : 0);
+        DUE.is("pieces", x.falls(0, -1, 0), slow.pieces(0).size());
+        DUE.is("necks", x.tongues(0, 0), Slow.above(tongues, 0));
+        DUE.is("greatest", x.tongues(0, 1), Slow.greatest(tongues));
+        DUE.is("cheapest", x.cheapest(0), 0);
+    }
+
+    private static boolean[][] spiral() {
+        boolean[][] tin = new boolean[20][20];
+        int a = 0;
+        int b = 0;
+        int side = 1;
+        tin[0][0] = true;
+        for (int length = 19, legs = 0; length > 0; legs++) {
+            for (int k = 0; k < length; k++) {
+                a += Slow.DX[side];
+                b += Slow.DY[side];
+                tin[b][a] = true;
+            }
+            side = (side + 1) % 4;
+            length -= legs == 0 || legs % 2 == 1 ? 0 : 2;
+        }
+        return tin;
+    }
+
+    private static void farGap() {
+        String cut = "t".repeat(20);
+        StringBuilder text = new StringBuilder("plate 20 20;");
+        for (int y = 0; y < 20; y++) {
+            text.append("row " + y + " " + cut + ";");
+        }
+        TinStencils x = Due.with(text + "hold north;");
+        x.change(0, 0, 19, false);
+        DUE.is("none other", x.falls(0, 0, 3), -1);
+        x.change(0, 19, 0, false);
+        DUE.is("across the sheet", x.falls(0, 0, 3), 37);
+        x.change(0, 19, 0, true);
+        x.change(0, 0, 1, false);
+        DUE.is("upwards", x.falls(0, 1, 3), 17);
+        DUE.is("downwards", x.falls(0, 0, 3), 17);
+        x.change(0, 10, 18, false);
+        DUE.is("aside", x.falls(0, 1, 3), 10);
+        DUE.is("to the lowest row", x.falls(0, 2, 3), 10);
     }
 }

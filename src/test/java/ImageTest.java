@@ -5,6 +5,7 @@ public final class ImageTest {
     public static void main(String[] args) {
         images();
         keeping();
+        keepingAll();
         counts();
         DUE.end();
     }
@@ -66,6 +67,51 @@ public final class ImageTest {
         x.put(0, 0, false);
         DUE.is("the shapes are as they were", x.read(0, 1, 0), 0);
         DUE.is("the shape's column", x.read(0, 1, 40), 1);
+    }
+
+    /** All that can be asked of two sheets is as it was, after others stood in their places. */
+    private static void keepingAll() {
+        for (int seed = 0; seed < 40; seed++) {
+            Maker maker = new Maker(seed);
+            TinStencils x = new TinStencils();
+            TinStencils same = new TinStencils();
+            for (int s = 0; s < 2; s++) {
+                maker.make(9, 20, 6);
+                String text = maker.text();
+                Due.tell(x, s, text);
+                Due.tell(same, s, text);
+            }
+            x.image();
+            for (int s = 0; s < 3; s++) {
+                maker.make(9, 20, 6);
+                Due.tell(x, s, maker.text());
+            }
+            x.back(0);
+            for (int s = 0; s < 3; s++) {
+                asWas(x, same, s);
+            }
+        }
+    }
+
+    private static void asWas(TinStencils x, TinStencils same, int s) {
+        for (int what = 0; what < 10; what++) {
+            DUE.is("sheet " + what, x.sheet(s, what), same.sheet(s, what));
+            for (int b = 0; b < 6; b++) {
+                DUE.is("bridge " + what, x.bridge(s, b, what), same.bridge(s, b, what));
+            }
+            for (int y = 0; y < 9; y++) {
+                DUE.is("read " + what, x.read(s, y, what), same.read(s, y, what));
+                DUE.is("read " + (10 + what), x.read(s, y, 10 + what), same.read(s, y, 10 + what));
+            }
+            DUE.is("judge " + what, x.judge(s, what), same.judge(s, what));
+            DUE.is("choice " + what, x.choice(s, false, what), same.choice(s, false, what));
+            DUE.is("left " + what, x.left(what), same.left(what));
+        }
+        for (int k = 0; k < 81; k++) {
+            for (int what = 0; what < 6; what++) {
+                DUE.is("square", x.square(s, k % 9, k / 9, what), same.square(s, k % 9, k / 9, what));
+            }
+        }
     }
 
     private static void counts() {

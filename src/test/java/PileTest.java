@@ -143,6 +143,7 @@ public final class PileTest {
         DUE.is("off", x.alike(0, 1, 0, 4, 0), 0);
         DUE.is("by itself", x.alike(0, 0, 0, 0, 0), 6);
         DUE.is("farthest", x.alike(0, 1, 3, -9, 9), 0);
+        DUE.is("farthest", x.alike(0, 1, 3, 9, -9), 0);
         int[][] wrong = {{0, 1, -1, 0, 0}, {0, 1, 4, 0, 0}, {0, 1, 0, -10, 0}, {0, 1, 0, 10, 0}, {0, 1, 0, 0, -10}, {0, 1, 0, 0, 10},
             {0, 2, 0, 0, 0}, {2, 0, 0, 0, 0}, {-1, 0, 0, 0, 0}, {0, 6, 0, 0, 0}};
         for (int[] w : wrong) {

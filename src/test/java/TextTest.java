@@ -13,6 +13,7 @@ public final class TextTest {
         limits();
         names();
         brokenTexts();
+        shortStatements();
         DUE.end();
     }
 
@@ -78,6 +79,12 @@ public final class TextTest {
         DUE.is("its first bytes", x.plate(4, 10), 0);
         DUE.is("sheet(4, 9)", x.sheet(4, 9), 4);
         DUE.is("the rest is gone", x.count(1), 0);
+        Due.feed(x, "plate 2 2;row 00001 ttt;");
+        DUE.is("cut within a number", x.plate(4, 16), -1);
+        DUE.is("more must come", x.fault(), 16);
+        Due.feed(x, "plate 2 2;row 01;");
+        DUE.is("cut within a word", x.plate(4, 12), -1);
+        DUE.is("it is no such word", x.fault(), 10);
     }
 
     private static void wholeTexts() {
@@ -232,6 +239,24 @@ public final class TextTest {
                 if (!token.equals(",")) {
                     expect(text.substring(0, places[k]) + " ,;" + text.substring(end), commaPlace(maker, k, places[k] + 1));
                 }
+            }
+        }
+    }
+
+    /** Statements cut short by a semicolon at each of their tokens. */
+    private static void shortStatements() {
+        String[] statements = {"row! 3! stt", "shape! b! st+ ss+ tt", "put! a! 1! 2+ turned! 3", "hold! north+ south", "worth! 1! 2! to! 3! 4! 50",
+            "brush! 5", "wear! 6", "bridge! straight! 1! 2! east! 3+ hidden", "bridge! broad! 1! 2! east! 3! 2+ hidden",
+            "bridge! corner! 1! 2! east! 3! south! 2+ hidden", "bridge! told! 1! 2+ ,! 3! 4+ hidden"};
+        for (String marked : statements) {
+            String[] tokens = marked.split(" ");
+            StringBuilder text = new StringBuilder("plate 5 5;shape a s;");
+            for (String token : tokens) {
+                boolean open = token.endsWith("!");
+                text.append(" ").append(token.replace("!", "").replace("+", ""));
+                expect(text + ";", open ? text.length() : -1);
+                expect(text.toString(), text.length());
+                expect(text + " ;", open ? text.length() + 1 : -1);
             }
         }
     }
