@@ -1146,7 +1146,8 @@ public final class TinStencils {
             }
             names[s.shapeNumber] = name;
             at++;
-            if (!takeSquares(1, Math.min(SHAPE_EDGE, s.wide))) {
+            // a shape may be greater than the sheet: its words have their own bound, not that of a row
+            if (!takeSquares(1, SHAPE_EDGE)) {
                 return false;
             }
             int length = squaresLong;

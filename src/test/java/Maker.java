@@ -139,7 +139,7 @@ final class Maker {
         names.add(name);
         word(name);
         boolean[][] s = new boolean[1 + random.nextInt(random.nextBoolean() ? 3 : 8)][];
-        int length = 1 + random.nextInt(Math.min(random.nextBoolean() ? 3 : 8, sheet.wide));
+        int length = 1 + random.nextInt(random.nextBoolean() ? 3 : 8);
         for (int k = 0; k < s.length; k++) {
             s[k] = squares(length, 2);
         }

@@ -7,6 +7,7 @@ public final class ReadTest {
         below();
         ties();
         fewest();
+        tooWide();
         ways();
         wrong();
         DUE.end();
@@ -58,6 +59,16 @@ public final class ReadTest {
         TinStencils x = Due.with("plate 4 1;shape a t;shape b tt;shape s s;row 0 tts;");
         // left out columns that stay, too, cost nothing and are no shapes
         read(x, 0, 0, 8, 1, 0);
+    }
+
+    /** A shape wider than the sheet is never past it, so it is never read; one higher is judged below the sheet. */
+    private static void tooWide() {
+        TinStencils x = Due.with("plate 2 1;shape a ttt;row 0 tt;");
+        read(x, 0, 2, 1);
+        TinStencils both = Due.with("plate 2 1;shape a ttt;shape b tt ss ss ss ss ss ss ss;row 0 tt;");
+        read(both, 0, 0, 1, 1, 0);
+        TinStencils high = Due.with("plate 2 1;shape a ts ss st;row 0 tt;");
+        read(high, 0, 2, 2);
     }
 
     private static void ways() {

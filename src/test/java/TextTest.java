@@ -9,6 +9,7 @@ public final class TextTest {
         feeding();
         plating();
         wholeTexts();
+        greatShapes();
         faults();
         limits();
         names();
@@ -115,6 +116,24 @@ public final class TextTest {
         DUE.is("sheet(0, 2)", close.sheet(0, 2), 3);
     }
 
+    /** Shapes wider and higher than the sheet: what is outside doesn't count. */
+    private static void greatShapes() {
+        for (int turns = 0; turns < 4; turns++) {
+            TinStencils x = Due.with("plate 2 2;shape a tsssst ttssss;put a 0 0 turned " + turns + ";");
+            DUE.is("statements", x.sheet(0, 2), 2);
+            DUE.is("shapes", x.sheet(0, 3), 1);
+            // turned by 0: ts over tt; by 1 (two wide): tt over ts; by 2: ss over ts; by 3: ts over ss
+            String want = new String[] {"tstt", "ttts", "ssts", "tsss"}[turns];
+            for (int k = 0; k < 4; k++) {
+                DUE.is("turned " + turns + " square " + k, x.square(0, k % 2, k / 2, 0), want.charAt(k) == 't' ? 1 : 0);
+            }
+        }
+        TinStencils all = Due.with("plate 3 2;shape a" + " tttttttt".repeat(8) + ";put a 2 1;put a 0 0 turned 1;");
+        DUE.is("nothing stays", all.sheet(0, 9), 0);
+        TinStencils edge = Due.with("plate 3 2;shape a" + " tttttttt".repeat(8) + ";put a 1 1 turned 2;");
+        DUE.is("its upper left alone is in the sheet", edge.sheet(0, 9), 4);
+    }
+
     private static void fault(String text, int place) {
         TinStencils x = new TinStencils();
         DUE.is("<" + text + ">", Due.tell(x, 3, text), place < 0 ? count(text, ';') - 1 : -1);
@@ -146,7 +165,9 @@ public final class TextTest {
             "plate 5 5;row 4 ^ststst;", "plate 5 5;row 4 ststs^", "plate 5 5;row 4 s ^s;", "plate 5 5;row 4 ststs;",
             "plate 5 5;shape^", "plate 5 5;shape ^;", "plate 5 5;shape ^1;", "plate 5 5;shape ^row s;", "plate 5 5;shape ^hidden s;",
             "plate 5 5;shape ^north s;", "plate 5 5;shape ^to s;", "plate 5 5;shape ^abcdefghi s;", "plate 5 5;shape abcdefgh s;",
-            "plate 5 5;shape a^", "plate 5 5;shape a ^;", "plate 5 5;shape a ^b;", "plate 5 5;shape a ^ststst;",
+            "plate 5 5;shape a^", "plate 5 5;shape a ^;", "plate 5 5;shape a ^b;", "plate 5 5;shape a ststst;",
+            "plate 1 1;shape a tt;", "plate 1 1;shape a stststst;", "plate 1 1;shape a ^ststststs;", "plate 1 1;shape a tt ^t;",
+            "plate 1 1;shape a tt tt tt tt tt tt tt tt;", "plate 1 1;shape a tt tt tt tt tt tt tt tt ^tt;", "plate 1 1;row 0 ^tt;",
             "plate 9 5;shape a ^ststststs;", "plate 8 5;shape a stststst;", "plate 5 5;shape a st ^s;", "plate 5 5;shape a st ^stt;",
             "plate 5 5;shape a st ^row;", "plate 5 5;shape a st ^1;", "plate 5 5;shape a st^", "plate 5 5;shape a s;shape ^a s;",
             "plate 5 5;shape st st;put st 0 0;", "plate 5 5;shape a s s s s s s s s;", "plate 5 5;shape a s s s s s s s s ^s;",
