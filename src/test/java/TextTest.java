@@ -134,26 +134,8 @@ public final class TextTest {
         DUE.is("its upper left alone is in the sheet", edge.sheet(0, 9), 4);
     }
 
-    private static void fault(String text, int place) {
-        TinStencils x = new TinStencils();
-        DUE.is("<" + text + ">", Due.tell(x, 3, text), place < 0 ? count(text, ';') - 1 : -1);
-        DUE.is("fault of <" + text + ">", x.fault(), place);
-        DUE.is("told", x.count(0), place < 0 ? 1 : 0);
-        DUE.is("refused", x.count(12), place < 0 ? 0 : 1);
-    }
-
-    private static int count(String text, char sign) {
-        int n = 0;
-        for (char c : text.toCharArray()) {
-            n += c == sign ? 1 : 0;
-        }
-        return n;
-    }
-
-    /** The fault is where the mark ^ stands in the text; at the end: more must come. */
     private static void at(String marked) {
-        int place = marked.indexOf('^');
-        fault(place < 0 ? marked : marked.substring(0, place) + marked.substring(place + 1), place);
+        Marks.at(DUE, marked);
     }
 
     private static void faults() {
