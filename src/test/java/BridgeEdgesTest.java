@@ -15,6 +15,7 @@ public final class BridgeEdgesTest {
         cornerOutside();
         cornerBack();
         told();
+        kinds();
         lasts();
         atFirstAllIn();
         bridgeOfNone();
@@ -24,6 +25,7 @@ public final class BridgeEdgesTest {
         seenOnce();
         hiddenAlone();
         nextSheet();
+        nextSheetOfChoice();
         nextOfTheLast();
         judgeOfNone();
         sevenPieces();
@@ -132,6 +134,18 @@ public final class BridgeEdgesTest {
         squares("told 0 0", "#....", ".....", ".....", ".....", ".....");
         squares("told 4 4,0 4,4 0", "....#", ".....", ".....", ".....", "#...#");
         squares("told 0 0,1 0,2 0,3 0,4 0,4 1,4 2,4 3", "#####", "....#", "....#", "....#", ".....");
+    }
+
+    private static void kinds() {
+        DUE.says("0 what (0 straight, 1 broad, 2 corner, 3 told), 3 whether it's hidden (1)");
+        String[] bridges = {"straight 0 0 north 1", "broad 0 0 east 1 2", "corner 0 0 east 1 south 1", "told 0 0"};
+        for (int k = 0; k < 4; k++) {
+            TinStencils x = Due.with(OPEN + "bridge " + bridges[k] + ";bridge " + bridges[k] + " hidden;");
+            DUE.is(bridges[k], x.bridge(0, 0, 0), k);
+            DUE.is(bridges[k] + " hidden", x.bridge(0, 1, 0), k);
+            DUE.is(bridges[k] + ": not hidden", x.bridge(0, 0, 3), 0);
+            DUE.is(bridges[k] + " hidden: hidden", x.bridge(0, 1, 3), 1);
+        }
     }
 
     private static void lasts() {
@@ -275,7 +289,21 @@ public final class BridgeEdgesTest {
         DUE.is("less high", x.judge(2, 2), 3);
         Due.tell(x, 3, "plate 20 20;row 0 tttt;row 1 tttt;");
         DUE.is("greater", x.judge(2, 2), 0);
-        DUE.is("by choice, too", x.choice(2, false, 1), 0);
+    }
+
+    private static void nextSheetOfChoice() {
+        DUE.says("CHOICE: the least SEEN (by the next SHEET, too)");
+        TinStencils x = new TinStencils();
+        Due.tell(x, 2, RING + "worth 1 2 to 1 2 5;bridge told 2 1;bridge told 1 2 hidden;");
+        String open = "plate 5 5;row 2 ttttt;";
+        Due.tell(x, 1, open);
+        Due.tell(x, 4, open);
+        DUE.is("the next isn't told", x.choice(2, false, 0), 1);
+        DUE.is("its seen", x.choice(2, false, 1), 1);
+        Due.tell(x, 3, open);
+        DUE.is("the next hides one", x.choice(2, false, 0), 2);
+        DUE.is("its seen", x.choice(2, false, 1), 0);
+        DUE.is("both twice", x.choice(2, true, 1), 1);
     }
 
     private static void nextOfTheLast() {

@@ -107,6 +107,17 @@ public final class PileEdgesTest {
         DUE.is("painted by one ahead", x.left(0), 2);
         x.order(501234);
         DUE.is("not the next, but later", x.left(0), 1);
+        x.order(234510);
+        DUE.is("0 is the last", x.left(0), 2);
+        TinStencils last = new TinStencils();
+        Due.tell(last, 5, "plate 1 1;row 0 t;bridge told 0 0;");
+        DUE.is("the last of the ORDER is left, too", last.left(0), 1);
+        Due.tell(last, 0, "plate 1 1;row 0 t;");
+        DUE.is("0 is ahead of it", last.left(0), 1);
+        last.order(543210);
+        DUE.is("painted by the last of the ORDER", last.left(0), 0);
+        last.order(501234);
+        DUE.is("painted by 0", last.left(0), 0);
         DUE.is("itself never", Due.with("plate 1 1;row 0 t;bridge told 0 0;").left(0), 1);
     }
 
@@ -182,6 +193,13 @@ public final class PileEdgesTest {
         Due.tell(point, 1, Due.drawn("....", "..#.", "...."));
         DUE.is("to the right and down", point.alike(0, 1, 0, 2, 1), 4);
         DUE.is("the other way", point.alike(1, 0, 0, -2, -1), 4);
+        Due.tell(point, 2, "plate 1 2;");
+        DUE.is("to the right, past it", point.alike(2, 0, 0, 1, 0), 0);
+        DUE.is("to the left, past it", point.alike(2, 0, 0, -1, 0), 0);
+        DUE.is("to the right, onto it", point.alike(2, 1, 0, 2, 0), 1);
+        DUE.is("to the left, off it", point.alike(2, 1, 0, -2, 0), 0);
+        DUE.is("down, onto it", point.alike(2, 1, 0, 2, 1), 1);
+        DUE.is("up, off it", point.alike(2, 1, 0, 2, -1), 0);
     }
 
     private static void alikeBothIn() {

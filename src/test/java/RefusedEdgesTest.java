@@ -29,6 +29,7 @@ public final class RefusedEdgesTest {
         refusedBack();
         allButTheTape();
         imagesOfTheirOwn();
+        allOfASheet();
         notAsToldAheadOfNoRoom();
         countOfOthers();
         askingIsNeverRefused();
@@ -131,6 +132,10 @@ public final class RefusedEdgesTest {
         DUE.is("one more than there are", x.plate(0, 1201), -2);
         DUE.is("all of it", x.plate(0, 1200), 1);
         DUE.is("brush", x.sheet(0, 7), 7);
+        DUE.says("a text of 1,200 tokens");
+        Due.feed(x, ";".repeat(1200));
+        DUE.is("all of it", x.plate(0, 1200), -1);
+        DUE.is("its fault", x.fault(), 0);
         DUE.says("at 1,180 there is room");
         TinStencils near = new TinStencils();
         for (int k = 1; k <= 59; k++) {
@@ -393,6 +398,28 @@ public final class RefusedEdgesTest {
             x.change(0, 1, 1, k != 2);
             x.change(0, 0, 0, false);
             DUE.is("images", x.count(2), 3);
+        }
+    }
+
+    private static void allOfASheet() {
+        DUE.says("IMAGES: all (of each SHEET)");
+        String[] texts = {"plate 2 3;row 0 tt;shape a ts ss;hold north;worth 1 1 to 1 2 8;brush 3;wear 90;bridge told 0 0 hidden;bridge told 0 0,1 0;",
+            "plate 3 2;row 1 t;shape b t;shape c s;hold east west;brush 8;wear 7;bridge broad 0 0 east 2 2;worth 0 0 to 0 0 2;", "plate 1 1;"};
+        for (int one = 0; one < texts.length; one++) {
+            for (int other = 0; other < texts.length; other++) {
+                TinStencils x = Due.with(texts[one]);
+                Due.tell(x, 5, texts[other]);
+                DUE.is("image", x.image(), 0);
+                List<Long> was = Asked.of(x);
+                Due.tell(x, 0, texts[other]);
+                Due.tell(x, 5, texts[one]);
+                DUE.is("image", x.image(), 1);
+                DUE.is("back", x.back(0), true);
+                was.set(2, 2L);
+                DUE.is("all is as it was", Asked.of(x).equals(was), true);
+                DUE.is("kind", x.bridge(0, 0, 0), one == 0 ? 3 : one == 1 ? 1 : -1);
+                DUE.is("hidden", x.bridge(0, 0, 3), one == 0 ? 1 : one == 1 ? 0 : -1);
+            }
         }
     }
 

@@ -81,6 +81,22 @@ public final class SheetEdgesTest {
         DUE.is("plate", Due.tell(x, 0, "plate 3 2;row 0 ttt;bridge straight 2 0 west 1;"), 2);
         drawn("tin", x, 1, "..#", "###");
         DUE.is("bridge", x.bridge(0, 0, 1), 1);
+        TinStencils often = new TinStencils();
+        for (int k = 0; k < 3; k++) {
+            String full = "plate 3 2;shape a tt tt;shape b t;hold north;worth 0 0 to 2 1 9;brush 9;wear 9;bridge told 0 0,1 0 hidden;row 1 tt;";
+            DUE.is("a full text", Due.tell(often, 0, full), 8);
+            DUE.is("a short text", Due.tell(often, 0, "plate 3 2;shape a t;bridge told 2 1;"), 2);
+            int[] due = {3, 2, 2, 1, 1, 1, 15, 0, 0, 6};
+            for (int what = 0; what < due.length; what++) {
+                DUE.is("told over, sheet(0, " + what + ")", often.sheet(0, what), due[what]);
+            }
+            drawn("worth told over", often, 2, "###", "###");
+            DUE.is("hidden told over", often.bridge(0, 0, 3), 0);
+            DUE.is("squares told over", often.bridge(0, 0, 1), 1);
+            often.change(0, 0, 0, true);
+            DUE.is("the shape told over", often.read(0, 0, 1), 1);
+            DUE.is("is one square", often.read(0, 0, 0), 0);
+        }
     }
 
     private static void rowsFirstSquares() {
@@ -384,6 +400,8 @@ public final class SheetEdgesTest {
             DUE.is("above " + w[0], x.sag(0, 0, 0, w[0], 1), w[1]);
         }
         DUE.is("n is nothing to the greatest", x.sag(0, 0, 0, 400, 0), 4);
+        DUE.is("not its own", Due.with("plate 3 3;row 0 ttt;row 2 ttt;").sag(0, 1, 1, 0, 1), 0);
+        DUE.is("not its own, at the end", Due.with("plate 3 1;").sag(0, 2, 0, 0, 1), 1);
     }
 
     private static void sagOfNone() {
