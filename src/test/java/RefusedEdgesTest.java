@@ -312,6 +312,8 @@ public final class RefusedEdgesTest {
         int taken = 0;
         TinStencils all = new TinStencils();
         for (int digits = 0; digits < 1000000; digits++) {
+            // an object is used for at most 512 calls
+            all = digits % 500 == 0 ? new TinStencils() : all;
             taken += all.order(digits) ? 1 : 0;
         }
         DUE.is("orders there are", taken, 720);

@@ -30,6 +30,8 @@ public final class TextEdgesTest {
         blanks();
         bytesOfNoToken();
         moreMustCome();
+        endedTooSoon();
+        goneOnTooFar();
         sixtyFirst();
         firstFaultCounts();
         DUE.end();
@@ -313,6 +315,55 @@ public final class TextEdgesTest {
             at(ahead.toString());
         }
         Marks.fault(DUE, "", 0);
+    }
+
+    private static final String[] WHOLE = {"plate 3 3", "row 0 st", "shape c st", "shape c st ss", "put c 0 0", "put c 0 0 turned 1", "hold north",
+        "hold north west", "worth 0 0 to 1 1 5", "brush 1", "wear 1", "bridge straight 0 0 east 2", "bridge straight 0 0 east 2 hidden",
+        "bridge broad 0 0 east 2 2", "bridge broad 0 0 east 2 2 hidden", "bridge corner 0 0 east 2 south 2",
+        "bridge corner 0 0 east 2 south 2 hidden", "bridge told 0 0", "bridge told 0 0 hidden", "bridge told 0 0 , 1 1",
+        "bridge told 0 0 , 1 1 hidden"};
+
+    private static boolean isWhole(String statement) {
+        for (String whole : WHOLE) {
+            if (whole.equals(statement)) {
+                return true;
+            }
+        }
+        return false;
+    }
+
+    /** Each statement broken off by its sign behind each token: the sign is the fault, unless the statement is whole there. */
+    private static void endedTooSoon() {
+        DUE.says("the first token with which no such text goes on (a ; too soon)");
+        for (String whole : WHOLE) {
+            String ahead = whole.startsWith("plate") ? "" : whole.startsWith("put") ? "plate 3 3;shape c st;" : "plate 3 3;";
+            String[] tokens = whole.split(" ");
+            StringBuilder text = new StringBuilder();
+            for (String token : tokens) {
+                text.append(text.length() == 0 ? "" : " ").append(token);
+                at(ahead + text + (isWhole(text.toString()) ? ";" : "^;"));
+                at(ahead + text + (isWhole(text.toString()) ? " ;" : " ^;"));
+            }
+        }
+    }
+
+    /** What may stand behind a whole statement in place of its sign is the fault, of whatever kind it is. */
+    private static void goneOnTooFar() {
+        DUE.says("the first token with which no such text goes on (one more than there may be)");
+        for (String whole : WHOLE) {
+            String ahead = whole.startsWith("plate") ? "" : whole.startsWith("put") ? "plate 3 3;shape c st;" : "plate 3 3;";
+            at(ahead + whole + " ^1;", ahead + whole + " ^plate;", ahead + whole + " ^row 0 s;", ahead + whole + " ^x;");
+            boolean told = whole.startsWith("bridge told") && !whole.endsWith("hidden");
+            at(ahead + whole + (told ? ",^;" : "^,0 0;"));
+            boolean hides = whole.startsWith("bridge") && !whole.endsWith("hidden");
+            at(ahead + whole + (hides ? " hidden;" : " ^hidden;"));
+            boolean turns = whole.equals("put c 0 0");
+            at(ahead + whole + (turns ? " turned ^;" : " ^turned 0;"));
+            boolean sides = whole.startsWith("hold");
+            at(ahead + whole + (sides ? " east;" : " ^east;"));
+            boolean squares = whole.startsWith("shape");
+            at(ahead + whole + (squares ? " ts;" : " ^ts;"));
+        }
     }
 
     private static void sixtyFirst() {
