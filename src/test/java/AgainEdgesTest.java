@@ -52,7 +52,7 @@ public final class AgainEdgesTest {
             case 20: return x.square(s, what % 5, what % 3, 3 + what % 3);
             case 21: return x.alike(s, s, what % 4, what % 3, 0);
             case 22: return x.turn(s, s);
-            default: return x.bridge(s, what % 2, what % 6);
+            default: return x.bridge(s, what / 6, what % 6);
         }
     }
 

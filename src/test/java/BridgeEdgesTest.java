@@ -394,6 +394,16 @@ public final class BridgeEdgesTest {
         DUE.is("cut one", x.made(0), 1);
         TinStencils both = Due.with(Due.drawn("......", "......", ".###..", "......", "......", "....#.", "......") + "hold north;");
         DUE.is("one joined, one cut", both.made(0), 3);
+        TinStencils first = Due.with(Due.drawn("......", "......", "......", ".....#", ".####.", ".####.", "......") + "hold east south;");
+        DUE.is("eight joined by one", first.made(0), 1);
+        first.change(0, 1, 1, false);
+        DUE.is("one more cut", first.made(0), 2);
+        first.change(0, 2, 1, false);
+        first.change(0, 3, 1, false);
+        first.change(0, 4, 1, false);
+        DUE.is("four joined by one", first.made(0), 2);
+        TinStencils sizes = Due.with(Due.drawn("......", "#.....", "......", "...###", "......") + "hold south;");
+        DUE.is("the first cut, the second joined", sizes.made(0), 2);
     }
 
     private static void withoutBridges() {

@@ -184,6 +184,14 @@ public final class NarrowEdgesTest {
                 }
             }
         }
+        for (int a = 0; a < 20; a++) {
+            TinStencils rim = Due.with(allCut(20, 2) + "hold north;");
+            rim.change(0, a, 0, false);
+            DUE.is("north rim at " + a, rim.square(0, a, 0, 3), 1);
+            rim.change(0, a, 0, true);
+            rim.change(0, a, 1, false);
+            DUE.is("below it at " + a, rim.square(0, a, 1, 3), 0);
+        }
         TinStencils low = Due.with("plate 4 9;row 3 tttt;hold south;");
         DUE.is("what is below the cut hangs", low.square(0, 0, 4, 3), 1);
         DUE.is("what is above it doesn't", low.square(0, 3, 2, 3), 0);

@@ -294,6 +294,8 @@ public final class PileEdgesTest {
         read(Due.with("plate 1 1;shape a t s s s s s s t;row 0 t;"), 0, 1, 2);
         read(Due.with("plate 1 2;shape a t t;row 0 t;row 1 t;"), 0, 0, 1, 0, 0);
         read(Due.with("plate 1 2;shape a t t;row 0 t;row 1 t;"), 1, 1, 2);
+        read(Due.with("plate 1 5;shape a t t t s s;row 0 t;row 1 t;row 2 t;row 3 t;row 4 t;"), 0, 2, 1, 0, 0);
+        read(Due.with("plate 1 5;shape a s s t t t;row 0 t;row 1 t;row 2 t;row 3 t;row 4 t;"), 0, 2, 1, 0, 0);
         TinStencils low = Due.with("plate 1 20;shape a t t;row 18 t;row 19 t;");
         read(low, 18, 0, 1, 0, 0);
         read(low, 19, 1, 2);

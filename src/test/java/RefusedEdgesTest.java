@@ -30,6 +30,7 @@ public final class RefusedEdgesTest {
         allButTheTape();
         imagesOfTheirOwn();
         allOfASheet();
+        allOfTheGreatest();
         notAsToldAheadOfNoRoom();
         countOfOthers();
         askingIsNeverRefused();
@@ -170,6 +171,20 @@ public final class RefusedEdgesTest {
         DUE.is("its fault", x.fault(), 18);
         DUE.is("empty after a fault", x.count(1), 0);
         DUE.is("one byte more than none", x.plate(0, 1), -2);
+        DUE.says("The first n bytes (a token ends with them)");
+        String text = "plate 12 12;brush 4000;";
+        for (int n = 0; n < text.length(); n++) {
+            Due.tell(x, 0, text);
+            DUE.is("all of it is a fault", x.fault(), 18);
+            Due.feed(x, text);
+            boolean whole = n == 12;
+            DUE.is("the first " + n, x.plate(1, n), whole ? 0 : -1);
+            boolean inWord = n > 0 && n < 5 || n > 12 && n < 17;
+            int at = whole ? -1 : n == 22 ? 18 : inWord ? (n < 5 ? 0 : 12) : n;
+            DUE.is("fault of the first " + n, x.fault(), at);
+        }
+        x = new TinStencils();
+        x.plate(0, 0);
         DUE.says("n is 0");
         DUE.is("of an empty tape", x.plate(0, 0), -1);
         DUE.is("its fault", x.fault(), 0);
@@ -423,6 +438,33 @@ public final class RefusedEdgesTest {
                 DUE.is("hidden", x.bridge(0, 0, 3), one == 0 ? 1 : one == 1 ? 0 : -1);
             }
         }
+    }
+
+    private static void allOfTheGreatest() {
+        DUE.says("IMAGES: all (of the greatest SHEETS)");
+        StringBuilder text = new StringBuilder("plate 20 20;worth 19 19 to 19 19 99;row 19 " + "s".repeat(19) + "t;hold south;");
+        for (int b = 0; b < 12; b++) {
+            text.append("bridge straight " + b + " 19 west " + (b + 1) + ";");
+        }
+        for (int k = 0; k < 8; k++) {
+            text.append("shape " + (char) ('a' + k) + " sssssss" + (k == 7 ? "t" : "s") + ";");
+        }
+        TinStencils x = new TinStencils();
+        Due.tell(x, 5, text.toString());
+        DUE.is("image", x.image(), 0);
+        Due.tell(x, 5, "plate 20 20;");
+        DUE.is("back", x.back(0), true);
+        for (int b = 0; b < 12; b++) {
+            DUE.is("squares of bridge " + b, x.bridge(5, b, 1), b + 1);
+        }
+        DUE.is("worth", x.square(5, 19, 19, 2), 99);
+        DUE.is("through", x.square(5, 19, 19, 0), 1);
+        DUE.is("held by", x.sheet(5, 6), 4);
+        DUE.is("shapes", x.sheet(5, 3), 8);
+        DUE.is("the eighth shape is as it was", x.read(5, 19, 0), 0);
+        DUE.is("it is the only one", x.read(5, 19, 1), 1);
+        DUE.is("the eighth", x.read(5, 19, 10), 7);
+        DUE.is("its column", x.read(5, 19, 40), 12);
     }
 
     private static void notAsToldAheadOfNoRoom() {

@@ -13,6 +13,7 @@ public final class SheetEdgesTest {
         putOutside();
         putLeavesWhatStays();
         putTurned();
+        putGreatest();
         holdAlone();
         worthOfARectangle();
         sheetOfNone();
@@ -136,6 +137,33 @@ public final class SheetEdgesTest {
         drawn("turned 1", Due.with(shape + " turned 1;"), 0, ".#.", ".#.", "#..");
         drawn("turned 2", Due.with(shape + " turned 2;"), 0, "#..", ".##", "...");
         drawn("turned 3", Due.with(shape + " turned 3;"), 0, ".#.", "#..", "#..");
+    }
+
+    private static void putGreatest() {
+        DUE.says("\"put\": a shape (of 8 words of 8, with others behind it)");
+        String eight = " tttttttt".repeat(8);
+        for (int turns = 0; turns < 4; turns++) {
+            TinStencils x = Due.with("plate 20 20;shape a" + eight + ";shape b" + eight + ";put a 3 5 turned " + turns + ";");
+            DUE.is("tin", x.sheet(0, 9), 400 - 64);
+            DUE.is("its first", x.square(0, 3, 5, 0), 1);
+            DUE.is("its last", x.square(0, 10, 12, 0), 1);
+            DUE.is("below it", x.square(0, 3, 13, 0), 0);
+        }
+        StringBuilder all = new StringBuilder("plate 20 20;");
+        for (char c = 'a'; c <= 'h'; c++) {
+            all.append("shape " + c + eight + ";");
+        }
+        DUE.is("the eighth", Due.with(all + "put h 0 0;").sheet(0, 9), 400 - 64);
+        DUE.says("a shape is as it's told, whatever was told ahead");
+        TinStencils again = new TinStencils();
+        for (int k = 0; k < 4; k++) {
+            DUE.is("great ones", Due.tell(again, 0, all.toString()), 8);
+            DUE.is("great ones", Due.tell(again, 1, all.toString()), 8);
+            DUE.is("a small one", Due.tell(again, 0, "plate 20 20;shape a tt;put a 0 0;put a 9 9 turned 1;"), 3);
+            DUE.is("tin", again.sheet(0, 9), 396);
+            DUE.is("below it", again.square(0, 0, 1, 0), 0);
+            DUE.is("great ones", Due.tell(again, 0, all.toString()), 8);
+        }
     }
 
     private static void holdAlone() {

@@ -32,6 +32,7 @@ public final class TextEdgesTest {
         moreMustCome();
         endedTooSoon();
         goneOnTooFar();
+        oneLeftOut();
         sixtyFirst();
         firstFaultCounts();
         DUE.end();
@@ -125,6 +126,13 @@ public final class TextEdgesTest {
         DUE.says("that of \"shape\" is a new one");
         at("plate 1 1;shape a s;shape b s;shape ^a s;", "plate 1 1;shape a s;shape ^a t;", "plate 1 1;shape a s;shape aa s;shape aaa s;",
             "plate 1 1;shape ab s;shape ba s;");
+        for (char c : new char[] {'a', 'b', 'm', 'y', 'z'}) {
+            StringBuilder text = new StringBuilder("plate 1 1;");
+            for (int length = 1; length <= 8; length++) {
+                text.append("shape " + String.valueOf(c).repeat(length) + " s;");
+                at(text.toString(), text + "shape ^" + String.valueOf(c).repeat(length) + " s;");
+            }
+        }
     }
 
     private static void shapesAtMost() {
@@ -178,6 +186,15 @@ public final class TextEdgesTest {
             at(start + "0 0" + ends[k], start + "2 1" + ends[k], start + "^3 1" + ends[k], start + "2 ^2" + ends[k], start + "^20 0" + ends[k],
                 start + "0 ^20" + ends[k]);
         }
+        // what would do for the other of X and Y doesn't for this one
+        for (int k = 0; k < starts.length; k++) {
+            String end = ends[k].replace("to 2 1", "to 2 8");
+            at("plate 3 9;" + starts[k] + "^5 1" + end, "plate 3 9;" + starts[k] + "^8 8" + end, "plate 3 9;" + starts[k] + "2 8" + end);
+            end = ends[k].replace("to 2 1", "to 8 2");
+            at("plate 9 3;" + starts[k] + "5 ^5" + end, "plate 9 3;" + starts[k] + "1 ^8" + end, "plate 9 3;" + starts[k] + "8 2" + end);
+        }
+        at("plate 3 9;worth 0 0 to ^5 1 5;", "plate 3 9;worth 0 0 to 2 8 5;", "plate 9 3;worth 0 0 to 1 ^5 5;", "plate 9 3;worth 0 0 to 8 2 5;",
+            "plate 3 9;worth 2 3 to ^1 5 5;", "plate 3 9;worth 0 3 to ^4 5 5;");
         at("plate 3 2;row 0 s;", "plate 3 2;row 1 s;", "plate 3 2;row ^2 s;", "plate 3 20;row 19 s;", "plate 3 20;row ^20 s;",
             "plate 3 2;worth 0 0 to 2 1 5;", "plate 3 2;worth 0 0 to ^3 1 5;", "plate 3 2;worth 0 0 to 2 ^2 5;",
             "plate 20 20;bridge told 19 19;", "plate 20 20;bridge told ^20 19;", "plate 20 20;bridge told 19 ^20;");
@@ -273,6 +290,7 @@ public final class TextEdgesTest {
 
     private static void blanks() {
         DUE.says("between them blanks (bytes 32 and 10)");
+        at("plate 5 5;shape\na t;put a 0 0;put  a 0 0;put\na 0 0;", "plate 5 5;shape a t;shape\n^a t;");
         at("plate\n5\n5\n;\nrow\n0\nts\n;", "plate  5 \n 5;", "plate 5 5 ; row 0 ts ;", "^pl ate 5 5;");
         for (int b = 0; b < 256; b++) {
             String mark = b == 32 || b == 10 ? "" : "^";
@@ -364,6 +382,18 @@ public final class TextEdgesTest {
             boolean squares = whole.startsWith("shape");
             at(ahead + whole + (squares ? " ts;" : " ^ts;"));
         }
+    }
+
+    private static void oneLeftOut() {
+        DUE.says("the first token with which no such text goes on (where one is left out)");
+        at("^3;", "^3 3;", "^;", "^,", "^row 0 st;", "^3 3;row 0 st;");
+        at("plate ^;", "plate 3^;", "plate 3 3 ^row 0 st;", "plate 3 3;row ^st;", "plate 3 3;^0 st;", "plate 3 3;shape ^;", "plate 3 3;shape st^;",
+            "plate 3 3;shape a s;put ^0 0;", "plate 3 3;shape a s;put a 0 ^turned 1;", "plate 3 3;shape a s;put a 0 0 ^1;",
+            "plate 3 3;^north;", "plate 3 3;worth 0 ^to 1 1 5;", "plate 3 3;worth 0 0 ^1 1 5;", "plate 3 3;worth 0 0 to 1 1^;",
+            "plate 3 3;^5;", "plate 3 3;bridge ^0 0 east 2;", "plate 3 3;bridge straight 0 ^east 2;", "plate 3 3;bridge straight 0 0 ^2;",
+            "plate 3 3;bridge straight 0 0 east^;", "plate 3 3;bridge broad 0 0 ^2 2;", "plate 3 3;bridge broad 0 0 east 2^;",
+            "plate 3 3;bridge corner 0 0 ^2 south 2;", "plate 3 3;bridge corner 0 0 east ^south 2;", "plate 3 3;bridge corner 0 0 east 2 ^2;",
+            "plate 3 3;bridge told ^, 1 1;", "plate 3 3;bridge told 0 ^, 1 1;", "plate 3 3;bridge told 0 0 ^1 1;", "plate 3 3;^told 0 0;");
     }
 
     private static void sixtyFirst() {
